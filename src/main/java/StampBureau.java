@@ -570,7 +570,7 @@ public final class StampBureau {
         private boolean isLike(int row, int column, int set, int straight) {
             int place = placeAt(row, column);
             return edges(row, column) == straight && place >= 0 && place < shownSets.length
-                    && (shownSets[place] >>> set & 1) == 1;
+                    && ((shownSets[place] >>> set) & 1) == 1;
         }
 
         private int edges(int row, int column) {
@@ -618,7 +618,7 @@ public final class StampBureau {
         }
 
         boolean isTorn(int row, int column) {
-            return (tornPlaces >>> placeAt(row, column) & 1L) == 1L;
+            return ((tornPlaces >>> placeAt(row, column)) & 1L) == 1L;
         }
 
         void noteTorn(int row, int column) {
@@ -647,7 +647,7 @@ public final class StampBureau {
             int n = 2 * (row * plate.columns + column) + (side == RIGHT ? 1 : 0);
             int x = (seed * 31 + n) * 40503;
             int all = allTeeth(side);
-            int teeth = x >>> 5 & all;
+            int teeth = (x >>> 5) & all;
             return teeth == 0 || teeth == all ? 1 : teeth;
         }
     }
@@ -815,19 +815,19 @@ public final class StampBureau {
 
         int pairs() {
             long taken = taken();
-            return Long.bitCount(takenWithRight(taken)) + Long.bitCount(taken & taken >>> MAX_ROWS);
+            return Long.bitCount(takenWithRight(taken)) + Long.bitCount(taken & (taken >>> MAX_ROWS));
         }
 
         int blocks() {
             long upper = takenWithRight(taken());
-            return Long.bitCount(upper & upper >>> MAX_ROWS);
+            return Long.bitCount(upper & (upper >>> MAX_ROWS));
         }
 
         int largestCluster() {
             long left = taken();
             int largest = 0;
             for (int place = 0; place < PLACES; place++) {
-                if ((left >>> place & 1L) == 1L) {
+                if (((left >>> place) & 1L) == 1L) {
                     long cluster = clusterFrom(1L << place, left);
                     largest = Math.max(largest, Long.bitCount(cluster));
                     left &= ~cluster;
@@ -842,7 +842,7 @@ public final class StampBureau {
             for (int top = 0; top < MAX_ROWS; top++) {
                 int common = WHOLE_ROW;
                 for (int bottom = top; bottom < MAX_ROWS; bottom++) {
-                    common &= (int) (taken >>> bottom * MAX_ROWS);
+                    common &= (int) (taken >>> (bottom * MAX_ROWS));
                     largest = Math.max(largest, (bottom - top + 1) * longestStretch(common));
                 }
             }
@@ -870,7 +870,7 @@ public final class StampBureau {
         }
 
         private static long takenWithRight(long taken) {
-            return taken & taken >>> 1 & ~LAST_COLUMN;
+            return taken & (taken >>> 1) & ~LAST_COLUMN;
         }
 
         private static long clusterFrom(long start, long taken) {
@@ -883,14 +883,14 @@ public final class StampBureau {
         }
 
         private static long placesBeside(long places) {
-            return places << MAX_ROWS | places >>> MAX_ROWS
-                    | (places & ~LAST_COLUMN) << 1 | (places & ~FIRST_COLUMN) >>> 1;
+            return (places << MAX_ROWS) | (places >>> MAX_ROWS)
+                    | ((places & ~LAST_COLUMN) << 1) | ((places & ~FIRST_COLUMN) >>> 1);
         }
 
         private static int longestStretch(int row) {
             int stretch = 0;
             // Each step shortens every stretch of bits by one.
-            for (int rest = row; rest != 0 && stretch < MAX_ROWS; rest &= rest >> 1) {
+            for (int rest = row; rest != 0 && stretch < MAX_ROWS; rest &= rest >>> 1) {
                 stretch++;
             }
             return stretch;
