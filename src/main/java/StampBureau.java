@@ -574,13 +574,9 @@ public final class StampBureau {
         }
 
         private int edges(int row, int column) {
-            int edges = 0;
-            for (int side = 0; side < SIDES; side++) {
-                if (!hasPlace(row + rowStep(side), column + columnStep(side))) {
-                    edges |= 1 << side;
-                }
-            }
-            return edges;
+            int aboveOrBelow = (row == 0 ? 1 << ABOVE : 0) | (row == rows - 1 ? 1 << BELOW : 0);
+            int leftOrRight = (column == 0 ? 1 << LEFT : 0) | (column == columns - 1 ? 1 << RIGHT : 0);
+            return aboveOrBelow | leftOrRight;
         }
     }
 
@@ -722,13 +718,10 @@ public final class StampBureau {
         }
 
         boolean joins(int side, Stamp other) {
-            if (number == other.number || !hasPaperAndGaugesOf(other)) {
-                return false;
-            }
             int all = sheet.allTeeth(side);
             int mine = teethAt(side);
             return mine != 0 && mine != all && other.teethAt(opposite(side)) == all - mine
-                    && hasMarkBeside(side, other);
+                    && number != other.number && hasPaperAndGaugesOf(other) && hasMarkBeside(side, other);
         }
 
         private boolean hasPaperAndGaugesOf(Stamp other) {

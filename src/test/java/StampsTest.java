@@ -15,6 +15,7 @@ public final class StampsTest {
         fitsNotItself();
         fitting();
         originByFlaws();
+        originInTheFirstAndTheLastRun();
         originByEdges();
         Checks.end();
     }
@@ -324,6 +325,22 @@ public final class StampsTest {
         }
         Checks.index("origin: index -1", () -> x.origin(0, -1));
         Checks.index("origin: index the least", () -> x.origin(0, LOW));
+    }
+
+    private static void originInTheFirstAndTheLastRun() {
+        StampBureau x = bureau(1, 1, 1, 1);
+        x.addPlate(1, 1);
+        x.addPlate(1, 1);
+        x.print(0, 0, 0, 0);
+        x.tear(0, 0, 0);
+        x.addFlaw(1, 0, 0, 0, 1, HUGE);
+        Checks.due("without flaws in the run 0 alone", 64, x.origin(0, 1));
+        x.addFlaw(2, 0, 0, 0, 0, 999);
+        Checks.due("without flaws in the run 999 alone", 128, x.origin(0, 2));
+        x.addFlaw(2, 0, 0, 1, 999, 1000);
+        Checks.due("without flaws from the run 1000 on", -1, x.origin(0, 2));
+        x.addFlaw(0, 0, 0, 1, 0, 1);
+        Checks.due("the flaws of the run 999 alone", 128, x.origin(0, 1));
     }
 
     private static void originByEdges() {
