@@ -227,12 +227,14 @@ public final class StampsTest {
     private static void fitsByTheMark() {
         for (int wide = 1; wide <= 4; wide++) {
             for (int high = 1; high <= 4; high++) {
-                fitsByTheMark(wide, high);
+                for (int a = 0; a < 16; a++) {
+                    fitsByTheMark(wide, high, a);
+                }
             }
         }
     }
 
-    private static void fitsByTheMark(int wide, int high) {
+    private static void fitsByTheMark(int wide, int high, int a) {
         StampBureau x = bureau(4, 4, wide, high);
         x.print(0, 0, 0, 0);
         for (int place = 0; place < 16; place++) {
@@ -243,14 +245,12 @@ public final class StampsTest {
         }
         int[] rowStep = {-1, 0, 1, 0};
         int[] columnStep = {0, 1, 0, -1};
-        for (int a = 0; a < 16; a++) {
-            for (int b = 0; b < 16; b++) {
-                for (int side = 0; side < 4 && a != b; side++) {
-                    boolean rows = Math.floorMod(a / 4 + rowStep[side] - b / 4, high) == 0;
-                    boolean columns = Math.floorMod(a % 4 + columnStep[side] - b % 4, wide) == 0;
-                    Checks.due(a + " " + side + " " + b + " on " + wide + " by " + high,
-                        rows && columns, x.fits(a, side, b));
-                }
+        for (int b = 0; b < 16; b++) {
+            for (int side = 0; side < 4 && a != b; side++) {
+                boolean rows = Math.floorMod(a / 4 + rowStep[side] - b / 4, high) == 0;
+                boolean columns = Math.floorMod(a % 4 + columnStep[side] - b % 4, wide) == 0;
+                Checks.due(a + " " + side + " " + b + " on " + wide + " by " + high,
+                    rows && columns, x.fits(a, side, b));
             }
         }
     }
